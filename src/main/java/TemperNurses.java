@@ -775,7 +775,7 @@ public final class TemperNurses {
             for (int n = 0; n < house.told.nurses; n++) {
                 int some = having[n];
                 int wanted = yearsBy[n * MOST_TEMPERS + t];
-                if (wanted == NONE || !house.mayJoin(t, n, some)) continue;
+                if (wanted == NONE || wanted >= fewestYears || !house.mayJoin(t, n, some)) continue;
                 having[n] = some | bit(t);
                 tryYears(t + 1, Math.max(years, wanted));
                 having[n] = some;
