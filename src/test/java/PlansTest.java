@@ -105,8 +105,13 @@ public final class PlansTest {
         CHECK.due("best(0, -1)", x.best(0, -1), -1000000);
         TemperNurses y = Check.told("t60 1 40;n4 1 99;");
         y.sends(0, 0);
-        CHECK.due("20 years at most", y.best(0, 0), 20);
-        CHECK.due("20 years at most", y.best(0, 1), 10);
+        CHECK.due("in 20 years", y.best(0, 0), 20);
+        CHECK.due("in 20 years", y.best(0, 1), 10);
+        TemperNurses z = Check.told("t60 3 40;n6 1 99;");
+        z.years(1);
+        z.sends(0, 0);
+        CHECK.due("21 years would be better", z.best(0, 0), 20);
+        CHECK.due("21 years would be better", z.best(0, 1), 7);
     }
 
     private static void beds() {

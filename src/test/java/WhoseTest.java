@@ -64,5 +64,10 @@ public final class WhoseTest {
         y.sends(0, 0);
         y.years(9);
         CHECK.due("a broken one", y.ask(), 1);
+        TemperNurses z = Check.told("t58 5 0;t60 5 0;");
+        z.years(8);
+        CHECK.due("98 and 99", z.ask(), 99);
+        z.years(1);
+        CHECK.due("99 and 99", z.ask(), -9);
     }
 }
