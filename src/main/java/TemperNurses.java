@@ -22,8 +22,8 @@ public final class TemperNurses {
     private final Listener listener;
     private final Kinds kinds;
     private final Course image0, image1;
-    private final boolean[] kept;
     private final int[] looseWays;
+    private int keptImages;
 
     public TemperNurses() {
         told = new Hill();
@@ -36,7 +36,6 @@ public final class TemperNurses {
         kinds = new Kinds(house);
         image0 = new Course();
         image1 = new Course();
-        kept = new boolean[IMAGES];
         looseWays = new int[MOST_TEMPERS + 1];
         course.begin(told);
     }
@@ -58,7 +57,7 @@ public final class TemperNurses {
         told.take(reader.draft);
         course.begin(told);
         listener.empty();
-        Arrays.fill(kept, false);
+        keptImages = 0;
         reader.empty();
         return items;
     }
@@ -238,13 +237,13 @@ public final class TemperNurses {
     public int keep(int image) {
         if (!isWithin(image, 0, IMAGES - 1)) return BAD;
         imageOf(image).take(course);
-        kept[image] = true;
+        keptImages |= bit(image);
         return course.year();
     }
 
     public int back(int image) {
         if (!isWithin(image, 0, IMAGES - 1)) return BAD;
-        if (!kept[image]) return STATE;
+        if ((keptImages & bit(image)) == 0) return STATE;
         course.take(imageOf(image));
         return course.year();
     }
