@@ -20,6 +20,7 @@ public final class KindsEdgesTest {
         keptAnew();
         imageOfANewObject();
         readAnew();
+        readAnewAtTheLastYear();
         readAnewOfNothing();
         counts();
         CHECK.end();
@@ -283,6 +284,25 @@ public final class KindsEdgesTest {
         CHECK.due("image 0", x.back(0), -2);
         CHECK.due("image 1", x.back(1), -2);
         CHECK.due("whose", x.whose(), 3);
+    }
+
+    private static void readAnewAtTheLastYear() {
+        CHECK.sentence("(Read anew: as told ..) when older ones are lost already");
+        TemperNurses x = Check.told("t60 5 0;t1 0 0;n1 2 99;");
+        x.sends(1, 0);
+        x.mixes(0, 1);
+        Check.letYearsGoBy(x, 99);
+        CHECK.due("the year", x.now(0), 99);
+        Check.typeAll(x, "t60 5 0;t1 0 0;n1 2 99;");
+        CHECK.due("hill", x.hill(), 3);
+        CHECK.due("the year", x.now(0), 0);
+        CHECK.due("heats", x.now(4), 61);
+        CHECK.due("right", x.now(2), 0);
+        CHECK.due("she has", x.nurse(0, 3), 0);
+        CHECK.due("undo", x.undo(), -2);
+        CHECK.due("years", x.years(9), 0);
+        CHECK.due("undo years", x.undo(), 0);
+        CHECK.due("the year", x.now(0), 0);
     }
 
     private static void readAnewOfNothing() {

@@ -32,6 +32,7 @@ public final class PlansEdgesTest {
         bedsOfTheBroken();
         bedsOfTheHottest();
         bedsMostThenFirst();
+        bedsTheFirstWayIsNotTheBest();
         bedsRefused();
         oddsOfSix();
         oddsOfThoseNotBroken();
@@ -424,6 +425,14 @@ public final class PlansEdgesTest {
         CHECK.due("no tempers", new TemperNurses().beds(198, -1), 0);
     }
 
+    /** 0 may lie with 1 or 2, 1 with 3, 2 with 4, 4 with 5: 0 and 1 together leave 3 alone. */
+    private static void bedsTheFirstWayIsNotTheBest() {
+        CHECK.sentence("BEDS: of all ways, that with most beds");
+        String clashes = "x0 3;x0 4;x0 5;x1 2;x1 4;x1 5;x2 3;x2 5;x3 4;x3 5;";
+        bedded(SIX + clashes, 3, 2, 3, 0, 1, 5, 4);
+        bedded("t1 0 0;".repeat(4) + "x0 3;x1 2;", 2, 1, 0, 3, 2);
+    }
+
     private static void bedsRefused() {
         CHECK.sentence("BEDS: how many (t = -1), the other one of a TEMPER; NONE. BAD");
         TemperNurses x = Check.told("t60 0 0;".repeat(6));
@@ -465,6 +474,13 @@ public final class PlansEdgesTest {
         }
         fraction(new TemperNurses(), 10, 0, 1, 1);
         fraction(new TemperNurses(), 5, 6, 1, 1);
+        TemperNurses y = Check.told("t1 0 0;");
+        Check.letYearsGoBy(y, 99);
+        fraction(y, 5, 0, 1, 2);
+        fraction(y, 10, 0, 0, 1);
+        TemperNurses z = new TemperNurses();
+        z.years(1);
+        fraction(z, 10, 0, 1, 1);
     }
 
     private static void oddsLeastTerms() {
