@@ -21,6 +21,7 @@ public final class KindsEdgesTest {
         imageOfANewObject();
         readAnew();
         readAnewAtTheLastYear();
+        readAnewIsAsNew();
         readAnewOfNothing();
         counts();
         CHECK.end();
@@ -303,6 +304,21 @@ public final class KindsEdgesTest {
         CHECK.due("years", x.years(9), 0);
         CHECK.due("undo years", x.undo(), 0);
         CHECK.due("the year", x.now(0), 0);
+    }
+
+    /** Nothing is left of a hill that was greater: all that can be seen is as if the text were the first one. */
+    private static void readAnewIsAsNew() {
+        CHECK.sentence("(Read anew: as told ..) all of it, behind a greater hill");
+        for (String text : new String[] {"", "n9 3 99;", "t5 0 0;", "t5 1 7;n9 3 99;", "t5 0 0;t6 0 0;n9 2 9;n1 1 9;x0 1;"}) {
+            String anew = Look.at(() -> {
+                TemperNurses x = Worlds.BRIM.get();
+                x.clear();
+                Check.typeAll(x, text);
+                x.hill();
+                return x;
+            });
+            CHECK.same("'" + text + "' read anew", anew, Look.at(() -> Check.told(text)));
+        }
     }
 
     private static void readAnewOfNothing() {

@@ -261,6 +261,8 @@ public final class PlansEdgesTest {
         CHECK.due("both with the better", Check.told("t10 0 0;t20 0 0;n2 1 99;n5 2 99;").now(3), 4);
         CHECK.due("both can't be", Check.told("t10 0 0;t20 0 0;n2 1 99;n5 2 99;x0 1;").now(3), 5);
         CHECK.due("wherever they are", soonestElsewhere().now(3), 5);
+        CHECK.due("six, and four nurses", Check.told("t9 0 0;".repeat(6) + "n1 1 9;n2 1 9;n3 1 9;n9 3 9;").now(3), 9);
+        CHECK.due("six, and room for all with the best", Check.told("t9 0 0;".repeat(6) + "n1 3 9;n2 3 9;n3 3 9;n9 3 9;").now(3), 3);
     }
 
     private static TemperNurses soonestElsewhere() {

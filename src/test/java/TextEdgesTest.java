@@ -208,6 +208,20 @@ public final class TextEdgesTest {
         Check.typeAll(x, NURSE);
         CHECK.due("nothing of what was is read", x.hill(), 1);
         CHECK.due("no tempers", x.count(0), 0);
+        clearedAhead("n1 1 999", "n1 1 9", -16);
+        clearedAhead("n1 1 9;;", "n1 1 9", -16);
+        clearedAhead("tttttttt", "t", -11);
+        clearedAhead("n1 1 9;;", "n1 1 9;", 1);
+        clearedAhead("????????", "    ", 0);
+    }
+
+    /** A text behind one that was longer: what stood behind its end is not read. */
+    private static void clearedAhead(String longer, String text, int due) {
+        TemperNurses x = new TemperNurses();
+        Check.typeAll(x, longer);
+        x.clear();
+        Check.typeAll(x, text);
+        CHECK.due("hill of '" + text + "' behind '" + longer + "'", x.hill(), due);
     }
 
     private static void blanks() {
@@ -315,7 +329,8 @@ public final class TextEdgesTest {
     private static void numbersThatAreNone() {
         CHECK.sentence("a NUMBER above 99 or with a 0 ahead of others, that TOKEN's");
         read("n1 1 99;", 1);
-        fault("n1 1 100;", 5);
+        for (int v = 100; v <= 10100; v++) fault("n1 1 " + v + ";", 5);
+        for (int v = 0; v <= 999; v++) fault("n1 1 0" + v + ";", 5);
         fault("n1 1 099;", 5);
         fault("n1 1 01;", 5);
         fault("t1 00 0;", 3);
@@ -325,6 +340,7 @@ public final class TextEdgesTest {
         fault("n1 1 2147483648;", 5);
         fault("n1 1 18446744073709551617;", 5);
         fault("n1 1 " + "1".repeat(114) + ";", 5);
+        fault("n1 1 " + "9".repeat(114) + ";", 5);
         fault("n1 1 " + "0".repeat(115), 5);
         fault("t1 0 0 100;", 7);
         fault("t1 0 0 007;", 7);
